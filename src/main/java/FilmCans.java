@@ -1022,7 +1022,7 @@ public final class FilmCans {
         /** The least end that is kept; more than any can has, if none is. */
         private final int[] keptFrom = new int[CANS];
         /** Open takes that a room serves; a can that is no room serves none. */
-        private final int[] serves = new int[CANS];
+        final int[] serves = new int[CANS];
         private final int[] takeFeet = new int[TAKES];
         /** Of each set of takes the feet of all together. */
         final int[] feetOf = new int[TAKE_SETS];
@@ -1049,7 +1049,7 @@ public final class FilmCans {
                 int kind = day.canKind[can];
                 int least = Kinds.leastKept(kind, day.laws[KEEP]);
                 feet[can] = day.canFeet[can];
-                lead[can] = can == day.camera ? 0 : day.leadOf(can);
+                lead[can] = can == day.camera ? 0 : Kinds.leadOf(kind, day.laws[LEADER]);
                 slate[can] = Kinds.slateOf(kind);
                 keptFrom[can] = least == NONE ? CAN_FEET_MOST + 1 : least;
                 serves[can] = open & day.takesServedBy(kind);
@@ -1177,68 +1177,72 @@ public final class FilmCans {
         /** A loss counts so much more than a room that rooms decide only among equal losses. */
         private static final int LOSS_WEIGHT = 16;
         private static final int NEVER = 1000000;
-        /** Row r: of each set of takes the least price at which the cans from r on have it. */
-        private final int[][] prices = new int[CANS + 1][TAKE_SETS];
+        /** Row r: of each set of takes the least price at which the cans behind can r have it. */
+        private final int[][] behind = new int[CANS][TAKE_SETS];
 
         /** Puts the best way into the sets of the rooms; false if there is no way. */
         boolean place(Rooms rooms) {
-            Arrays.fill(prices[CANS], NEVER);
-            prices[CANS][0] = 0;
-            for (int can = CANS - 1; can >= 0; can--) {
-                System.arraycopy(prices[can + 1], 0, prices[can], 0, TAKE_SETS);
-                if (rooms.has(can)) {
-                    admit(rooms, can);
-                }
+            int last = CANS - 1;
+            Arrays.fill(behind[last], NEVER);
+            behind[last][0] = 0;
+            int served = 0;
+            for (int can = last; can > 0; can--) {
+                System.arraycopy(behind[can], 0, behind[can - 1], 0, TAKE_SETS);
+                admit(rooms, can, served);
+                served |= rooms.serves[can];
             }
-            if (prices[0][rooms.open] >= NEVER) {
-                return false;
-            }
-            choose(rooms);
-            return true;
+            return choose(rooms);
         }
 
-        private void admit(Rooms rooms, int can) {
-            for (int set = rooms.open; set > 0; set = (set - 1) & rooms.open) {
+        /** Only takes that some can behind this one serves can be left to those. */
+        private void admit(Rooms rooms, int can, int served) {
+            int own = rooms.serves[can];
+            for (int set = own; set > 0; set = (set - 1) & own) {
                 if (rooms.holds(can, set)) {
-                    spread(can, set, priceOf(rooms, can, set), rooms.open & ~set);
+                    spread(can, set, priceOf(rooms, can, set), served & ~set);
                 }
             }
         }
 
         private void spread(int can, int set, int price, int others) {
-            int[] here = prices[can];
-            int[] behind = prices[can + 1];
-            here[set] = Math.min(here[set], price + behind[0]);
+            int[] without = behind[can];
+            int[] with = behind[can - 1];
+            with[set] = Math.min(with[set], price);
             for (int rest = others; rest > 0; rest = (rest - 1) & others) {
-                int both = price + behind[rest];
-                if (both < here[set | rest]) {
-                    here[set | rest] = both;
+                int both = price + without[rest];
+                if (both < with[set | rest]) {
+                    with[set | rest] = both;
                 }
             }
         }
 
-        /** Can by can the least set that still leads to the least price. */
-        private void choose(Rooms rooms) {
+        private boolean choose(Rooms rooms) {
             int rest = rooms.open;
             for (int can = 0; can < CANS; can++) {
-                rooms.sets[can] = leastSet(rooms, can, rest);
-                rest &= ~rooms.sets[can];
+                int set = cheapestSet(rooms, can, rest);
+                if (set == NONE) {
+                    return false;
+                }
+                rooms.sets[can] = set;
+                rest &= ~set;
             }
+            return true;
         }
 
-        private int leastSet(Rooms rooms, int can, int rest) {
-            int[] behind = prices[can + 1];
-            int due = prices[can][rest];
-            if (behind[rest] == due) {
-                return 0;
-            }
+        /** Sets are tried rising, so that of several at the least price the least is taken. */
+        private int cheapestSet(Rooms rooms, int can, int rest) {
+            int least = behind[can][rest];
+            int chosen = least < NEVER ? 0 : NONE;
             for (int set = 1; set <= rest; set++) {
-                if ((set & ~rest) == 0 && rooms.holds(can, set)
-                        && priceOf(rooms, can, set) + behind[rest ^ set] == due) {
-                    return set;
+                if ((set & ~rest) == 0 && rooms.holds(can, set)) {
+                    int price = priceOf(rooms, can, set) + behind[can][rest ^ set];
+                    if (price < least) {
+                        least = price;
+                        chosen = set;
+                    }
                 }
             }
-            return 0;
+            return chosen;
         }
 
         private static int priceOf(Rooms rooms, int can, int set) {

@@ -271,6 +271,20 @@ public final class PromisesTest {
         x.law(0, 9);
         due("undo() a law", x.undo(), 4);
         due("lead as before", x.can(0, 5), 1);
+        x.lab();
+        x.demand(0, 0, 3);
+        x.law(1, 1);
+        x.buy(4, 30);
+        x.load(1);
+        x.shoot(0);
+        x.unload();
+        due("another roll", x.roll(0, 0) * 10 + x.roll(0, 2), 11);
+        for (int k = 10; k >= 4; k--) {
+            due("undo() back to the former roll", x.undo(), k);
+        }
+        due("can of the former roll", x.roll(0, 0), 0);
+        due("feet of the former roll", x.roll(0, 1), 7);
+        due("family of the former roll", x.roll(0, 2), 0);
         due("undo()", x.undo(), 3);
         due("undo()", x.undo(), 2);
         due("undo()", x.undo(), 1);
@@ -747,6 +761,10 @@ public final class PromisesTest {
         x.law(2, 99);
         due("a greater batch, by lab", x.batches(0), 2);
         due("a greater batch, fewest", x.batches(1), 2);
+        x = waiting(10, 0, -4, 4, -6, 6);
+        due("a reversal one first, by lab", x.batches(0), 2);
+        due("a reversal one first, fewest", x.batches(1), 2);
+        due("once more, by lab", x.batches(0), 2);
         x = waiting(10, 0);
         due("none, by lab", x.batches(0), 0);
         due("none, fewest", x.batches(1), 0);
@@ -830,6 +848,8 @@ public final class PromisesTest {
         due("the end is kept", x.plan(0), 0);
         x = of("h0,1,20,3;s40;t0,20;");
         due("no end of a strip is kept", x.plan(0), 20);
+        x = of("h0,1,20,3;s99;t0,1;");
+        due("nor the greatest", x.plan(0), 98);
         x = of("h0,20,20,3;f30;t0,20;");
         due("half of keep for a fast one", x.plan(0), 0);
         x.law(1, 22);
@@ -857,6 +877,15 @@ public final class PromisesTest {
         due("least set on can 0", x.planOf(0), 0);
         due("then on can 1", x.planOf(1), 3);
         due("then on can 2", x.planOf(2), 12);
+        // the fewest rooms stand ahead of the least set
+        x = of("h0,1,20,3;n40;n20;n20;t0,20;t0,20;");
+        due("both on can 0", x.planOf(0), 3);
+        due("none on can 1", x.planOf(1), 0);
+        // the least losses stand ahead of both: 0 on cans 1 and 2, 10 on can 0
+        x = of("h0,20,20,3;n50;n20;n20;t0,20;t0,20;");
+        due("none on can 0", x.planOf(0), 0);
+        due("one on can 1", x.planOf(1), 1);
+        due("one on can 2", x.planOf(2), 2);
         x = of("h0,40,20,3;n10;n50;t0,20;");
         x.load(0);
         x.unload();
@@ -907,6 +936,10 @@ public final class PromisesTest {
         due("tightest with slate", x.ruleOf(1, 1), 1);
         x = of("h1,5,20,3;n20;n20;t0,10;");
         due("of several the first", x.ruleOf(1, 0), 1);
+        FilmCans y = of("h0,5,20,3;n99;n10;t0,10;");
+        due("none left is the tightest", y.ruleOf(1, 1), 1);
+        y = of("h0,5,20,3;n99;t0,1;");
+        due("the most left on the only one", y.ruleOf(1, 0), 1);
         x.load(0);
         due("the camera's has lost its lead already", x.ruleOf(1, 0), 1);
         x.law(0, 2);
