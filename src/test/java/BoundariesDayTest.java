@@ -435,6 +435,8 @@ public final class BoundariesDayTest extends Sentences {
         due("by LAB", x.batches(0), 3);
         due("FEWEST", x.batches(1), 2);
         due("FAMILIES apart", waiting(10, 0, 5, -5).batches(1), 2);
+        due("a REVERSAL one first", waiting(10, 0, -5, 5).batches(1), 2);
+        due("two of each", waiting(10, 0, -5, 5, 5, -5).batches(1), 2);
         x = waiting(99, 0, 1, -1, 1, -1, 1, -1, 1, -1);
         due("eight of two FAMILIES", x.batches(1), 2);
         x = waiting(10, 0, 2, 2, 5, 3, 3, 7, 5, 3);

@@ -68,6 +68,54 @@ public final class BoundariesForetoldTest extends Sentences {
         keepsAll(Sentences::busy, "fogged(5, 1)", x -> x.fogged(5, 1), 4);
         keepsAll(Sentences::busy, "drawn(20, 2, 1)", x -> x.drawn(20, 2, 1), busy().drawn(20, 2, 1));
         keepsAll(Sentences::busy, "count(3)", x -> x.count(3), 4);
+        // nor does what was asked on the day before, when there were other rooms, other takes, and a way
+        sameDay("asked in the morning", () -> {
+            FilmCans x = morning();
+            foretold(x);
+            toNoon(x);
+            return x;
+        }, () -> {
+            FilmCans x = morning();
+            toNoon(x);
+            return x;
+        });
+        sameDay("asked when there was a way", () -> {
+            FilmCans x = busy();
+            foretold(x);
+            x.demand(1, 2, 60);
+            return x;
+        }, BoundariesForetoldTest::hopeless);
+        sameDay("asked when there was a way for the last one", () -> {
+            FilmCans x = busy();
+            foretold(x);
+            x.demand(3, 5, 60);
+            return x;
+        }, () -> {
+            FilmCans x = busy();
+            x.demand(3, 5, 60);
+            return x;
+        });
+        sameDay("asked of another BOOK", () -> {
+            FilmCans x = busyWithoutTape();
+            foretold(x);
+            Check.feed(x, "h0,1,20,3;n9;t0,9;t0,1;");
+            x.book();
+            return x;
+        }, () -> of("h0,1,20,3;n9;t0,9;t0,1;"));
+    }
+
+    /** Can 4, the only STRIP, and can 1, the only FAST one, are spent; take 0 is shot. */
+    private static void toNoon(FilmCans x) {
+        x.law(1, 40);
+        x.load(4);
+        x.unload();
+        x.load(1);
+        x.shoot(5);
+        x.shoot(0);
+        x.unload();
+        x.demand(4, 4, 5);
+        x.again(5);
+        x.demand(5, 0, 20);
     }
 
     @Sentence(of = "terms 3", says = "ROOMS are CANS on THE SHELF and the one in THE CAMERA")
@@ -114,6 +162,7 @@ public final class BoundariesForetoldTest extends Sentences {
         plan("h0,1,20,3;f99;t2,1;t1,1;", 0, 1, 3);
         plan("h0,1,20,3;n99;f99;t2,1;t1,1;", 0, 1, 0, 3);
         plan("h0,1,20,3;f99;n99;t2,1;t1,1;", 0, 1, 3, 0);
+        plan("h0,1,20,3;s1;n10;r10;t4,10;t1,10;", 0, 2, 0, 2, 1);
         // a take that is shot is not placed
         FilmCans x = busy();
         due("take 0 on none", (x.planOf(0) | x.planOf(1) | x.planOf(2) | x.planOf(3)), 14);
@@ -528,6 +577,12 @@ public final class BoundariesForetoldTest extends Sentences {
     static void promise25_losses() {
         due("rule(0, 0)", busy().rule(0, 0), 7);
         due("rule(1, 0)", busy().rule(1, 0), 9);
+        FilmCans x = busy();
+        for (int i = 0; i < 2; i++) {
+            due("one behind the other, rule(0, 0)", x.rule(0, 0), 7);
+            due("one behind the other, rule(1, 0)", x.rule(1, 0), 9);
+            due("one behind the other, plan(0)", x.plan(0), 7);
+        }
         due("no TAKES", idle().rule(0, 0), 0);
         due("no TAKES", idle().rule(1, 0), 0);
     }
@@ -576,6 +631,9 @@ public final class BoundariesForetoldTest extends Sentences {
         for (int rule = 0; rule < 2; rule++) {
             for (int c = 0; c < 4; c++) {
                 due("ruleOf(" + rule + ", " + c + ")", busy().ruleOf(rule, c), sets[rule][c]);
+                FilmCans x = busy();
+                x.ruleOf(1 - rule, c);
+                due("ruleOf(" + rule + ", " + c + ") behind the other", x.ruleOf(rule, c), sets[rule][c]);
             }
             due("all eight", of("h0,1,10,0;n99;t0,1;t0,1;t0,1;t0,1;t0,1;t0,1;t0,1;t0,1;").ruleOf(rule, 0), 255);
             due("no TAKES", idle().ruleOf(rule, 0), 0);

@@ -256,6 +256,11 @@ public final class BoundariesThereTest extends Sentences {
         keepsAll(Sentences::noBook, "batches(0), no BOOK", x -> x.batches(0), 0);
         FilmCans x = noon();
         due("as lab() does", x.batches(0), x.lab());
+        FilmCans y = eightWait();
+        for (int i = 0; i < 5; i++) {
+            due("asked again", y.batches(0), 1);
+        }
+        due("lab() then", y.lab(), 1);
     }
 
     @Sentence(of = "promise 20", says = "FEWEST (1).")
@@ -270,6 +275,8 @@ public final class BoundariesThereTest extends Sentences {
         due("31 of NEGATIVE are too few for 32", x.batches(1), 3);
         x.law(2, 32);
         due("32 are enough", x.batches(1), 2);
+        x.law(2, 31);
+        due("asked again", x.batches(1), 3);
     }
 
     @Sentence(of = "promise 20", says = "BAD.")

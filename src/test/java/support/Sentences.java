@@ -255,7 +255,7 @@ abstract class Sentences {
         return row.all();
     }
 
-    private static long[] foretold(FilmCans x) {
+    static long[] foretold(FilmCans x) {
         Row row = new Row();
         for (int k = 0; k < 2; k++) {
             row.add(x.plan(k));
