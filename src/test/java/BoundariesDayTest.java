@@ -31,6 +31,12 @@ public final class BoundariesDayTest extends Sentences {
         return x;
     }
 
+    private static void shootOn(FilmCans x, int can, int take) {
+        x.load(can);
+        x.shoot(take);
+        x.unload();
+    }
+
     private static void evenBooks(FilmCans x) {
         due("shelf, camera, exposed and waste are what was bought", x.sums(1) + x.sums(2) + x.sums(3) + x.sums(4), x.sums(0));
     }
@@ -313,6 +319,32 @@ public final class BoundariesDayTest extends Sentences {
         x.unload();
         due("the FAMILY by now", x.roll(1, 2), 0);
         due("the same CAN", x.roll(1, 0), 1);
+        // 7 and 9 feet of one CAN, but of two FAMILIES, whatever the CAN is by now
+        due("BATCHES by LAB", x.batches(0), 2);
+        due("FEWEST", x.batches(1), 2);
+        due("lab()", x.lab(), 2);
+    }
+
+    @Sentence(of = "terms 2", says = "the FAMILY of its CAN by now)")
+    static void terms2_familyStaysThatOfTheRoll() {
+        FilmCans x = of("h0,1,20,4;n60;r60;t0,7;t0,9;");
+        shootOn(x, 0, 0);
+        shootOn(x, 1, 1);
+        x.become(0, 5);
+        due("its CAN is a STRIP by now", x.as(0, 5), 0);
+        due("the first ROLL", x.roll(0, 2), 0);
+        due("BATCHES by LAB", x.batches(0), 2);
+        due("FEWEST", x.batches(1), 2);
+        due("lab()", x.lab(), 2);
+        due("PAID", x.sums(6), 2 * 4 + 7 + 9);
+        FilmCans y = of("h0,1,20,4;n60;r60;t0,7;t0,9;");
+        y.become(1, 2);
+        shootOn(y, 0, 0);
+        shootOn(y, 1, 1);
+        y.become(1, 4);
+        due("both were NEGATIVE ones: BATCHES by LAB", y.batches(0), 1);
+        due("both were NEGATIVE ones: FEWEST", y.batches(1), 1);
+        due("both were NEGATIVE ones: lab()", y.lab(), 1);
     }
 
     @Sentence(of = "terms 2", says = "the END of the CAN: if it is KEPT, the CAN is on THE SHELF again, SHORT from now on;")
@@ -362,6 +394,7 @@ public final class BoundariesDayTest extends Sentences {
         due("one behind the other, not by size", waiting(10, 0, 4, 4, 6, 6).lab(), 3);
         due("into the first of two", waiting(10, 0, 6, 6, 4, 4).lab(), 2);
         due("FAMILIES apart", waiting(10, 0, 3, -3, 3, -3).lab(), 2);
+        due("FAMILIES apart, though one would hold all", waiting(20, 0, 3, -3, 3, -3).lab(), 2);
         // into the first with room, not into the last, nor into the fullest: 3 + 7, 8 + 2
         due("into the first with room", waiting(10, 0, 3, 8, 7, 2).lab(), 2);
         // into the first though the second would be filled by it: 5 + 2, 8, 5

@@ -1,8 +1,13 @@
 import java.util.Random;
 
-/** Runs of calls by fixed draws on the class and on the model, which must answer alike. */
+/**
+ * Runs of calls by fixed draws on the class and on the model, which must answer alike.
+ * The document leaves free what an object answers behind its 512th call, so no run makes more.
+ */
 public final class RandomRunsTest {
-    private static final int RUNS = 600, CALLS = 512;
+    private static final int RUNS = 6000, CALLS = 512;
+    /** The most calls of one step, of a text with what comes behind it, and of a look at all there is. */
+    private static final int STEP = 30, TELL = 140, LOOK = 215;
     private final Check check = new Check();
     private final Random random;
     private final FilmCans x = new FilmCans();
@@ -10,12 +15,16 @@ public final class RandomRunsTest {
     private final int run;
     /** Most takes that a book has here: the model tries all ways, so only some runs have all eight. */
     private final int takes;
+    /** Whether most steps make rolls, so that eight wait and batches differ. */
+    private final boolean rolling;
+    /** Calls made on the object so far. */
     private int calls;
 
     private RandomRunsTest(int run) {
         this.run = run;
         random = new Random(run * 7919L + 13);
         takes = run % 6 == 0 ? 8 : run % 6 == 1 ? 6 : 4;
+        rolling = run % 5 == 0;
     }
 
     public static void main(String[] args) {
@@ -37,13 +46,28 @@ public final class RandomRunsTest {
         }
     }
 
+    /** Every other run ends with a look at all there is; the others go on with acts instead. */
     private void go() {
-        for (calls = 0; calls < CALLS && !check.failed(); calls++) {
-            step();
+        int end = run % 2 == 0 ? LOOK : 0;
+        if (random.nextInt(12) != 0) {
+            tell();
         }
+        while (hasRoomFor(STEP + end) && !check.failed()) {
+            step(end);
+        }
+        if (end > 0) {
+            lookAround();
+        }
+        check.holds("run " + run + " makes " + calls + " calls", calls <= CALLS);
     }
 
+    private boolean hasRoomFor(int more) {
+        return calls + more <= CALLS;
+    }
+
+    /** The answer of the one call that was made on the object for it. */
     private void same(String call, long got, long want) {
+        calls++;
         check.due("run " + run + ", call " + calls + ": " + call, got, want);
     }
 
@@ -66,7 +90,7 @@ public final class RandomRunsTest {
     private int someTake() { return near(0, Math.max(0, m.count(1) - 1)); }
 
     private String text() {
-        boolean roomy = random.nextBoolean();
+        boolean roomy = rolling || random.nextBoolean();
         StringBuilder b = new StringBuilder("h");
         b.append(draw(0, random.nextInt(3) == 0 ? 9 : 3)).append(',').append(draw(1, random.nextBoolean() ? 8 : 40)).append(',');
         b.append(draw(10, random.nextBoolean() ? 30 : 99)).append(',').append(draw(0, 20)).append(';');
@@ -74,8 +98,8 @@ public final class RandomRunsTest {
         for (int i = 0; i < cans; i++) {
             b.append("nfgrs".charAt(random.nextInt(5))).append(draw(roomy ? 40 : 1, roomy ? 99 : 60)).append(';');
         }
-        int n = draw(0, takes);
-        boolean small = random.nextBoolean();
+        int n = draw(rolling ? 3 : 0, takes);
+        boolean small = rolling || random.nextBoolean();
         for (int i = 0; i < n; i++) {
             b.append('t').append(random.nextBoolean() ? 0 : draw(0, 5)).append(',').append(draw(1, small ? 15 : 60)).append(';');
         }
@@ -106,22 +130,26 @@ public final class RandomRunsTest {
         same("count(6)", x.count(6), m.count(6));
         same("book() of " + text, x.book(), m.book());
         same("fault()", x.fault(), m.fault());
-        lookAround();
+        glance();
     }
 
-    private void step() {
-        if (calls == 0 && random.nextInt(3) != 0 || random.nextInt(90) == 0) {
+    private void step(int end) {
+        if (random.nextInt(60) == 0 && hasRoomFor(TELL + end)) {
             tell();
             return;
         }
         int k = random.nextInt(100);
-        if (k < 60) {
+        if (k < (rolling ? 50 : 5)) {
+            haul();
+            glance();
+        } else if (k < 60) {
             act();
-            lookAround();
-        } else if (k < 95) {
+            glance();
+        } else if (k < 93) {
             foretell();
         } else {
             rare();
+            glance();
         }
     }
 
@@ -139,6 +167,15 @@ public final class RandomRunsTest {
             case 15: a = near(0, 3); b = lawFor(a); same("law(" + a + ", " + b + ")", x.law(a, b), m.law(a, b)); break;
             default: buyOrAsk(); break;
         }
+    }
+
+    private void haul() {
+        int can = someCan();
+        int take = someTake();
+        same("load(" + can + ")", x.load(can), m.load(can));
+        same("shoot(" + take + ")", x.shoot(take), m.shoot(take));
+        same("unload()", x.unload(), m.unload());
+        same("again(" + take + ")", x.again(take), m.again(take));
     }
 
     private int lawFor(int which) {
@@ -201,7 +238,23 @@ public final class RandomRunsTest {
                 }
                 break;
         }
-        lookAround();
+    }
+
+    /** Some of what there is, as a look at all would use the object up. */
+    private void glance() {
+        for (int i = 0; i < 3; i++) {
+            int a, b;
+            switch (random.nextInt(9)) {
+                case 0: case 1: a = someCan(); b = near(0, 7); same("can(" + a + ", " + b + ")", x.can(a, b), m.can(a, b)); break;
+                case 2: a = someTake(); b = near(0, 3); same("take(" + a + ", " + b + ")", x.take(a, b), m.take(a, b)); break;
+                case 3: a = near(0, Math.max(0, m.count(4) - 1)); b = near(0, 2);
+                    same("roll(" + a + ", " + b + ")", x.roll(a, b), m.roll(a, b)); break;
+                case 4: case 5: a = near(0, 7); same("sums(" + a + ")", x.sums(a), m.sums(a)); break;
+                case 6: a = near(0, 6); same("count(" + a + ")", x.count(a), m.count(a)); break;
+                case 7: a = near(0, 1); same("batches(" + a + ")", x.batches(a), m.batches(a)); break;
+                default: same("fault()", x.fault(), m.fault()); break;
+            }
+        }
     }
 
     private void lookAround() {
@@ -218,7 +271,15 @@ public final class RandomRunsTest {
             same("sums(" + what + ")", x.sums(what), m.sums(what));
             same("count(" + what + ")", x.count(what), m.count(what));
         }
-        same("fault()", x.fault(), m.fault());
-        same("the books are even", x.sums(1) + x.sums(2) + x.sums(3) + x.sums(4), x.sums(0));
+        booksAreEven();
+    }
+
+    private void booksAreEven() {
+        int[] sums = new int[5];
+        for (int what = 0; what < sums.length; what++) {
+            sums[what] = x.sums(what);
+            calls++;
+        }
+        check.due("run " + run + ": the books come out even", sums[1] + sums[2] + sums[3] + sums[4], sums[0]);
     }
 }
